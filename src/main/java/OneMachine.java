@@ -476,7 +476,7 @@ public final class OneMachine {
         private final int[] dropped = new int[MOST_JOBS];
         /** For each job, those of its family that must be done ahead of it. */
         private final int[] mustBeDone = new int[MOST_JOBS];
-        /** The least cost of the jobs that are still to come, by the set of those done, and by the family of the last. */
+        /** The least cost of the jobs still to come, by the set of those done and, with families, by the last one. */
         private final int[] rest = new int[(1 << MOST_JOBS) * (FAMILIES + 1)];
 
         void orderByDueDates(Jobs jobs) {
@@ -637,7 +637,8 @@ public final class OneMachine {
 
         /**
          * The least greatest lateness of the jobs that are not done, if this one is the next.
-         * It counts from a time of 0: setups make the time differ for the same jobs done, but all lateness shifts with it.
+         * It counts from a time of 0: with setups the same jobs can be done at several times, but all lateness
+         * shifts along.
          */
         private int latenessBy(Jobs jobs, int done, int family, int job) {
             int end = jobs.setupBehind(family, job) + jobs.length[job];
@@ -821,7 +822,7 @@ public final class OneMachine {
         }
     }
 
-    /** The window with the greatest bound; of several the one with the lowest due date, then the lowest release date. */
+    /** The window with the greatest bound; of several the one with the lowest due date, then release date. */
     private static final class Window {
         int bound;
         int due;

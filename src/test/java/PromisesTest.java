@@ -93,10 +93,12 @@ public final class PromisesTest {
         CHECK.same("2: addJob", machine.addJob(30, 300, 20, 100, 3), 1);
         int[][] wrong = {job(0, 0, 1, 0, 0), job(31, 0, 1, 0, 0), job(1, -1, 1, 0, 0), job(1, 301, 1, 0, 0),
             job(1, 0, 0, 0, 0), job(1, 0, 21, 0, 0), job(1, 0, 1, -1, 0), job(1, 0, 1, 101, 0),
-            job(1, 0, 1, 0, -1), job(1, 0, 1, 0, 4), job(Integer.MIN_VALUE, 0, 1, 0, 0), job(Integer.MAX_VALUE, 0, 1, 0, 0)};
+            job(1, 0, 1, 0, -1), job(1, 0, 1, 0, 4), job(Integer.MIN_VALUE, 0, 1, 0, 0),
+            job(1, Integer.MAX_VALUE, 1, 0, 0)};
         machine.planByDueDates();
         for (int[] job : wrong) {
-            CHECK.fails("2: addJob out of range", ARGUMENT, () -> machine.addJob(job[0], job[1], job[2], job[3], job[4]));
+            CHECK.fails("2: addJob out of range", ARGUMENT,
+                    () -> machine.addJob(job[0], job[1], job[2], job[3], job[4]));
             CHECK.fails("3: changeJob out of range", ARGUMENT,
                     () -> machine.changeJob(0, job[0], job[1], job[2], job[3], job[4]));
         }
@@ -484,7 +486,8 @@ public final class PromisesTest {
         CHECK.same("35: below 0", early.windowBound(true), -149);
         CHECK.same("35: releases count as 0", early.windowBound(false), -199);
         CHECK.same("37: the release date itself", early.windowRelease(), 50);
-        OneMachine several = machine(job(2, 20, 1, 6, 0), job(4, 10, 1, 4, 0), job(2, 10, 1, 6, 0), job(12, 20, 1, 0, 0));
+        OneMachine several = machine(job(2, 20, 1, 6, 0), job(4, 10, 1, 4, 0), job(2, 10, 1, 6, 0),
+                job(12, 20, 1, 0, 0));
         CHECK.same("35: both from 0 to 20 and from 4 to 10", several.windowBound(true), 0);
         CHECK.same("36: the lowest due date", several.windowDue(), 10);
         CHECK.same("37: not the lowest release date of all", several.windowRelease(), 4);

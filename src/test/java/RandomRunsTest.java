@@ -68,7 +68,7 @@ public final class RandomRunsTest {
             String got = answer(method, machine, arguments);
             told.append(' ').append(method.getName()).append(Arrays.toString(arguments));
             if (!got.equals(due)) {
-                CHECK.count(false, "run " + run + ", call " + call + ":" + told + " answered " + got + ", due is " + due);
+                CHECK.count(false, "run " + run + ":" + told + " answered " + got + ", due is " + due);
                 return;
             }
             CHECK.count(true, "");
