@@ -1,7 +1,17 @@
 /** Counts checks, prints those that fail, and ends the program with 1 if there was one. */
 final class Check {
+    private String about = "";
     private int right = 0;
     private int wrong = 0;
+
+    /** What the next checks are about: it stands ahead of their complaints. */
+    void begin(String newAbout) {
+        about = newAbout + ": ";
+    }
+
+    int counted() {
+        return right + wrong;
+    }
 
     void same(String what, long got, long due) {
         count(got == due, what + " answered " + got + ", due is " + due);
@@ -9,6 +19,14 @@ final class Check {
 
     void same(String what, boolean got, boolean due) {
         count(got == due, what + " answered " + got + ", due is " + due);
+    }
+
+    void same(String what, String got, String due) {
+        count(got.equals(due), what + " answered " + got + ", due is " + due);
+    }
+
+    void planned(String what, OneMachine machine, String due) {
+        same(what, Machines.pieces(machine), due);
     }
 
     /** The very class is asked for: the machine's own exceptions are subclasses of those of the document. */
@@ -27,7 +45,7 @@ final class Check {
             right++;
         } else {
             wrong++;
-            System.out.println("wrong: " + complaint);
+            System.out.println("wrong: " + about + complaint);
         }
     }
 
